@@ -7,6 +7,7 @@ public final class ThreeDots {
     private static final int LAST_MINUTE = 99999;
     private static final int MOST_MINUTES = 300;
     private static final int MOST_ANSWERS = 60;
+    private static final int ABOVE_ANY_CROSS = 1000;
 
     private final World now;
     private final World image;
@@ -381,7 +382,7 @@ public final class ThreeDots {
             return NONE;
         }
         int choices = 1 << Math.min(4, now.talk.openOf(one));
-        int least = Integer.MAX_VALUE;
+        int least = ABOVE_ANY_CROSS;
         int best = 0;
         for (int set = 0; set < choices; set++) {
             imagine();
@@ -452,7 +453,7 @@ public final class ThreeDots {
         if (!isOne(one) || !within(n, 1, MOST_MINUTES) || !within(what, 0, 1)) {
             return NONE;
         }
-        int least = Integer.MAX_VALUE;
+        int least = ABOVE_ANY_CROSS;
         int best = NONE;
         for (int pace = 1; pace <= 256; pace *= 2) {
             imagine();
