@@ -53,6 +53,14 @@ public final class PromisesTest {
         split();
         undo();
         undoForgotten();
+        undoRows();
+        edges();
+        drawEdges();
+        readingHours();
+        longTexts();
+        deletesTies();
+        easeEdges();
+        splitEdges();
         image();
         look();
         System.out.println(checks + " checks, " + wrong + " wrong");
@@ -1440,6 +1448,259 @@ public final class PromisesTest {
             due(gone[i] + " forgets", x.look(10), 0);
             due(gone[i] + " forgets", x.undo(), false);
         }
+    }
+
+    private static void undoRows() {
+        // Rows of messages that are written over after undoing must be brought back whole.
+        ThreeDots x = with(0, "go 1000;delay 1;hurt 0;");
+        x.set(1, 1, 60);
+        x.say(0, 9, 9, true);
+        x.minutes(4);
+        due("an answer with a stop", x.message(1, 5) * 10 + x.message(1, 6), 10);
+        due("took", x.of(0, 1), 2);
+        List<Integer> before = seen(x);
+        x.image(true);
+        x.set(0, 0, 0);
+        x.say(1, 1, 1, false);
+        x.say(1, 1, 1, true);
+        x.say(0, 1, 1, false);
+        x.image(false);
+        same("image brings rows back", seen(x), before);
+        due("took", x.of(0, 1), 2);
+        for (int i = 0; i < 4; i++) {
+            x.minutes(1);
+        }
+        due("took changes", x.of(1, 1), 2);
+        due("undone", x.undo() && x.undo() && x.undo() && x.undo(), true);
+        same("undo brings rows back", seen(x), before);
+        x.minutes(4);
+        due("answers are awaited again", x.look(1) > 2, true);
+        x.set(3, 0, 0);
+        x.ring();
+        x.undo();
+        due("ticks stay", x.of(0, 2), 0);
+        tell(x, 0, "go 400+100*ticks;");
+        x.set(0, 0, 0);
+        x.say(0, 5, 0, false);
+        x.say(1, 5, 0, false);
+        due("ticks in thought", x.goes(5, 0), 3);
+    }
+
+    private static void edges() {
+        ThreeDots x = with(0, "go 1000;delay 1;");
+        x.say(0, 5, 0, false);
+        due("goes one minute", x.goes(1, 0), 1);
+        due("copies: l 100", x.copies(5, 100, 2), NONE);
+        due("copies: what 3", x.copies(1, 1, 3), NONE);
+        due("thread: what 2", x.thread(2), NONE);
+        due("awake one hour", x.awake(1, 0) * 100 + x.awake(1, 1) * 10 + x.awake(1, 2), 101);
+        due("a cost of 0", x.table(0, 0, 0), true);
+        due("costs of 0 and 99", x.table(0, 0, 99) && x.table(0, 99, 0), true);
+        ThreeDots y = with(3, "sign easy 100 cross 300;sign easy 900 cross 910;sign easy 500 cross 501;");
+        due("needs: the last sign", y.needs(499, 2), 3);
+        due("needs: no such sign", y.needs(999, 3), NONE);
+        due("needs: p 0", y.needs(0, 2), NONE);
+        int least = 1000;
+        for (int p = 499; p > 0 && y.needs(p, 1) != NONE; p--) {
+            least = y.needs(p, 1);
+        }
+        due("needs up to sixty", least >= 59 && least <= 60, true);
+        x = new ThreeDots();
+        x.set(1, 0, 50);
+        x.set(1, 1, 30);
+        due("ring both", x.ring(), 40);
+        due("ring 1", x.of(1, 0), 10);
+        x = new ThreeDots();
+        x.say(0, 20, 0, false);
+        x.say(0, 11, 1, false);
+        due("which: 21 and 20", x.which(1), 1);
+        x.say(0, 22, 0, false);
+        due("which: 22 and 21", x.which(1), 2);
+        due("drift 0 after another", x.drift(0, 0), 2);
+        due("drift again", x.drift(0, 0), 2);
+        x = new ThreeDots();
+        x.say(0, 5, 0, false);
+        due("drift: no kisses", x.drift(0, 0), 1);
+        x = with(2, "at 0 one 0 deletes;");
+        x.say(0, 5, 0, false);
+        x.minutes(1);
+        due("the first can be the latest", x.message(0, 7), 1);
+        x = with(2, "at 0 one 0 deletes;");
+        x.say(0, 5, 0, false);
+        x.say(1, 5, 0, false);
+        due("whose: only the first is left", with(0, "").goes(1, 1), NONE);
+        due("whose: of 1", x.goes(1, 1), 1);
+        x.takeBack(1);
+        x.say(1, 5, 0, false);
+        x.takeBack(2);
+        tell(x, 2, "");
+        due("whose: the first of all", x.goes(1, 1), 0);
+    }
+
+    /** A state whose next draw of 1000 is d. */
+    private static int stateFor(int d) {
+        for (int s = 0; s < 1000000; s++) {
+            if (((s * 1664525 + 1013904223) >>> 8) % 1000 == d) {
+                return s;
+            }
+        }
+        return 0;
+    }
+
+    private static void drawEdges() {
+        int[][] cases = {{0, 0, 0}, {0, 1, 1}, {1, 1, 0}, {499, 500, 1}, {500, 500, 0}, {501, 500, 0}, {999, 1000, 1},
+            {999, 999, 0}, {998, 999, 1}};
+        for (int[] c : cases) {
+            ThreeDots x = with(0, "go " + c[1] + ";delay 1;");
+            x.state(stateFor(c[0]));
+            x.say(0, 5, 0, false);
+            x.minutes(2);
+            due("draw " + c[0] + " with go " + c[1], x.message(0, 8) == 2, c[2] == 1);
+        }
+    }
+
+    private static void readingHours() {
+        ThreeDots x = new ThreeDots();
+        tell(x, 0, "go 0;");
+        tell(x, 1, "one 0 from 0 for 1 sleep;one 1 from 1 for 1 sleep;one 0 from 2 for 1 busy;one 1 from 2 for 1 busy;");
+        x.say(0, 5, 0, false);
+        x.say(1, 5, 0, false);
+        x.minutes(2);
+        due("1 reads", x.message(0, 2), 1);
+        due("0 sleeps", x.message(1, 2), NONE);
+        x.set(0, 0, 60);
+        x.say(0, 5, 0, false);
+        x.say(1, 5, 0, false);
+        x.minutes(2);
+        due("1 sleeps", x.message(0, 2), NONE);
+        due("0 reads", x.message(1, 2), 61);
+        x.set(0, 0, 120);
+        x.say(0, 5, 0, false);
+        x.say(1, 5, 0, false);
+        x.minutes(2);
+        due("both busy", x.message(0, 2) + x.message(1, 2), -2);
+        // The answer is by what is so when it is due, busy or not.
+        tell(x, 0, "go 1000;delay 70;lasts hour*10+took;kiss bus;");
+        tell(x, 1, "one 1 from 1 for 1 bus;one 1 from 2 for 1 sleep;");
+        x.set(0, 0, 55);
+        x.set(2, 1, 7);
+        x.say(0, 5, 0, false);
+        x.minutes(10);
+        due("due", x.message(0, 8), 126);
+        x.minutes(62);
+        due("asleep he answers", x.message(1, 1), 126);
+        due("by hour and took then", x.message(1, 3), 27);
+        due("no bus", x.message(1, 4), 0);
+    }
+
+    private static void longTexts() {
+        StringBuilder s = new StringBuilder("go 0");
+        while (s.length() < 397) {
+            s.append("+1");
+        }
+        s.append(" ;");
+        good(0, s.toString(), 1);
+        due("400 bytes", s.length(), 400);
+        ThreeDots x = with(0, s.toString());
+        x.say(0, 1, 0, false);
+        due("a long sum", x.asks(0, 4), 197);
+        faulty(0, ";".repeat(400), 1, 0);
+        good(0, "go 1;" + "\n".repeat(394) + "", 1);
+        faulty(0, "go 1;" + " ".repeat(394) + "x", 1, 399);
+        faulty(0, "go " + "1".repeat(397), 1, 3);
+        faulty(0, "g".repeat(400), 1, 0);
+        faulty(0, "go 1" + "+1".repeat(198), 1, 400);
+        faulty(0, "go1;".repeat(16) + " zgo1;", 1, 65);
+        faulty(0, "go 1 Z", 1, 5);
+        faulty(0, "Az go 1;", 1, 0);
+        // A line of the text told before must not shine through.
+        x = with(1, "one 0 from 0 for 24 bus;one 1 from 0 for 24 busy;");
+        due("told anew", tell(x, 1, "one 0 from 0 for 24 sleep;"), 1);
+        due("1 is free", x.of(1, 3) * 10 + x.of(0, 3), 3);
+        due("2 lines, then none", tell(x, 3, "sign easy 1 cross 2;sign easy 1 cross 2;") * 10 + tell(x, 3, ""), 20);
+        due("no signs", x.waits(5), NONE);
+    }
+
+    private static void deletesTies() {
+        // Hurt only by the message that is read as the second one: without either of two it never comes.
+        ThreeDots x = with(0, "hurt 0-1 when cross=20;hurt 10 when cross=10;hurt 10 when cross=19;go 0;");
+        x.say(0, 5, 0, false);
+        x.say(0, 5, 0, false);
+        x.say(0, 5, 0, false);
+        // All: 20, 19, 29. Without one: 20, 19. Without two: 20. Without all: 10.
+        due("all", x.deletes(0, 9, 0) * 10 + x.deletes(0, 9, 1), 107);
+        x = with(0, "hurt 0-1 when cross=11;hurt 1;go 0;");
+        x.say(0, 5, 0, false);
+        x.say(0, 5, 0, false);
+        x.say(0, 5, 0, false);
+        // 11, 10, 11: without any one of them it is 10; the least set of the fewest.
+        due("one of three", x.deletes(0, 9, 0) * 10 + x.deletes(0, 9, 1), 101);
+        x.say(1, 5, 0, false);
+        x.minutes(2);
+        due("read: no choice", x.deletes(0, 9, 1), 0);
+        due("cross stays", x.deletes(0, 9, 0), 11);
+        x = with(0, "hurt long-50;go 0;");
+        x.say(1, 99, 0, false);
+        x.say(0, 60, 0, false);
+        x.say(1, 51, 0, false);
+        x.say(0, 40, 0, false);
+        due("of 0: his own alone", x.deletes(0, 2, 0) * 10 + x.deletes(0, 2, 1), 1);
+        due("of 1: his own alone", x.deletes(1, 2, 0) * 10 + x.deletes(1, 2, 1), 103);
+        // What is taken back in thought is never read: the others still are.
+        x = with(0, "hurt 3;go 0;");
+        for (int i = 0; i < 6; i++) {
+            x.say(0, 5, 0, false);
+        }
+        due("four of six", x.deletes(0, 2, 0) * 100 + x.deletes(0, 2, 1), 1615);
+    }
+
+    private static void easeEdges() {
+        ThreeDots x = with(0, "go 1000;delay 5;hurt 10 when one=0;");
+        x.say(0, 5, 0, false);
+        due("one minute", x.ease(1, 1, 0) * 100 + x.ease(1, 1, 1), 120);
+        // Only 256 is late enough for the answer not to be read within 200 minutes.
+        due("256", x.ease(1, 200, 0), 256);
+        due("cross", x.ease(1, 200, 1), 20);
+        due("128 is enough for 100", x.ease(1, 100, 0), 128);
+        due("his own pace ends with it", x.goes(8, 2), 20);
+        due("the other one's pace does not help 0", x.ease(0, 200, 0) > 1, true);
+        x = with(0, "go 499;delay 5;hurt 10 when one=0;");
+        x.say(0, 5, 0, false);
+        due("no answer in thought: any will do", x.ease(1, 200, 0), 1);
+    }
+
+    private static void splitEdges() {
+        ThreeDots x = with(0, "go 1000 when kisses>0;go 0;delay long-1;kiss 0;lasts 1;");
+        // Said later, answered earlier: answers do not come by the size of their pauses.
+        x.say(0, 30, 1, false);
+        x.say(1, 40, 1, false);
+        x.minutes(20);
+        x.say(1, 5, 1, false);
+        x.minutes(10);
+        x.say(0, 6, 1, false);
+        x.say(1, 4, 1, false);
+        x.minutes(40);
+        // Pauses of 0: 40, 5, 4; of 1: 30, 6. Behind 6: 2 + 10.
+        due("behind 6", x.split(0), 7);
+        due("of 0 below", x.split(1), 2);
+        x = new ThreeDots();
+        tell(x, 0, "go 1000 when kisses>0;go 0;delay long;kiss 0;");
+        tell(x, 1, "one 1 from 0 for 24 sleep;");
+        x.say(0, 5, 1, false);
+        x.minutes(10);
+        x.say(1, 5, 1, false);
+        x.minutes(10);
+        for (int i = 0; i < 34; i++) {
+            x.minutes(300);
+        }
+        x.say(0, 9, 1, false);
+        x.say(0, 50, 1, false);
+        tell(x, 1, "");
+        x.minutes(60);
+        due("a pause beyond", x.pauses(1, 1), 10225);
+        // 6 (of 0), 10, 51, 10225: numbers end at 9999, so what is longer is never below.
+        due("cut", x.split(0), 52);
+        due("of 0 below", x.split(1), 1);
     }
 
     private static int keepsToldLaw() {
