@@ -93,11 +93,11 @@ public final class ThreeDots {
         }
         int before = now.talk.count;
         course.begin(now.talk, false);
-        for (int left = n; left > 0; left--) {
-            // Those ahead of the last ones would be pushed out at once.
-            if (left <= Past.MOST) {
-                past.keep(now.talk);
-            }
+        // Only the last ones need keeping: those ahead of them would be pushed out at once.
+        int last = Math.min(n, Past.MOST);
+        course.go(n - last);
+        for (int i = 0; i < last; i++) {
+            past.keep(now.talk);
             course.pass();
         }
         return now.talk.count - before;
@@ -1023,6 +1023,8 @@ public final class ThreeDots {
         private static final int ANSWERED = 2;
         private static final int TAKEN_BACK = 3;
         private static final int RUNG = 4;
+        private static final int DAY = 1440;
+        private static final int HOUR_FOUR = 240;
 
         private final World world;
         private final Judge judge;
@@ -1050,10 +1052,45 @@ public final class ThreeDots {
             pace = minutesLater;
         }
 
+        /** So many minutes; those in which nothing can happen are not looked at one by one. */
         void go(int n) {
-            for (int i = 0; i < n; i++) {
+            int end = talk.minute + n;
+            for (int i = 0; i < n && talk.minute < end; i++) {
+                talk.minute = Math.min(end - 1, quietUntil());
                 pass();
             }
+        }
+
+        /** The first minute from this one on in which, or at the end of which, something may happen. */
+        private int quietUntil() {
+            int minute = talk.minute;
+            int next = minute + (DAY + HOUR_FOUR - 1 - minute % DAY) % DAY;
+            if (talk.open > 0) {
+                if (someoneCanRead()) {
+                    return minute;
+                }
+                next = Math.min(next, minute - minute % 60 + 60);
+            }
+            Sheet sayings = world.texts[World.SAYINGS];
+            for (int i = 0; i < sayings.lines; i++) {
+                int told = sayings.cell(i, 0);
+                next = told >= minute ? Math.min(next, told) : next;
+            }
+            for (int i = 0; i < talk.count && talk.awaited > 0; i++) {
+                next = talk.due[i] >= minute ? Math.min(next, talk.due[i]) : next;
+            }
+            return next;
+        }
+
+        private boolean someoneCanRead() {
+            boolean first = world.reads(0, talk.hour());
+            boolean second = world.reads(1, talk.hour());
+            for (int i = 0; i < talk.count && (first || second); i++) {
+                if (talk.isOpen(i) && (talk.from[i] == 1 ? first : second)) {
+                    return true;
+                }
+            }
+            return false;
         }
 
         /** One minute. */
@@ -1066,7 +1103,7 @@ public final class ThreeDots {
                 answerMessages();
             }
             talk.minute++;
-            if (talk.minute % 1440 == 240) {
+            if (talk.minute % DAY == HOUR_FOUR) {
                 talk.cross[0] -= talk.cross[0] / 10;
                 talk.cross[1] -= talk.cross[1] / 10;
             }
