@@ -1505,6 +1505,18 @@ public final class PromisesTest {
             least = y.needs(p, 1);
         }
         due("needs up to sixty", least >= 59 && least <= 60, true);
+        due("exactly sixty", needsSixty(), 60);
+        x.say(0, 5, 0, false);
+        x.goes(5, 0);
+        due("said, not thought", x.say(0, 5, 0, false) * 10 + x.look(1), 23);
+        x.goes(5, 0);
+        due("taken back, not thought", x.takeBack(2) && x.message(2, 7) == 1, true);
+        x.set(1, 0, 90);
+        x.goes(5, 0);
+        due("rung, not thought", x.ring() * 100 + x.of(0, 0), 7070);
+        x.goes(5, 0);
+        x.minutes(7);
+        due("gone by, not thought", x.look(0), 7);
         x = new ThreeDots();
         x.set(1, 0, 50);
         x.set(1, 1, 30);
@@ -1517,6 +1529,9 @@ public final class PromisesTest {
         x.say(0, 22, 0, false);
         due("which: 22 and 21", x.which(1), 2);
         due("drift 0 after another", x.drift(0, 0), 2);
+        x.say(0, 12, 1, false);
+        x.say(0, 22, 0, false);
+        due("which: 22 and 22", x.which(1), 4);
         due("drift again", x.drift(0, 0), 2);
         x = new ThreeDots();
         x.say(0, 5, 0, false);
@@ -1545,6 +1560,18 @@ public final class PromisesTest {
             }
         }
         return 0;
+    }
+
+    /** The most that is ever needed of a sign that says little. */
+    private static int needsSixty() {
+        int most = NONE;
+        for (int easy = 900; easy < 999; easy++) {
+            ThreeDots x = with(3, "sign easy " + easy + " cross 999;");
+            for (int p = 1; p < 500; p++) {
+                most = Math.max(most, x.needs(p, 0));
+            }
+        }
+        return most;
     }
 
     private static void drawEdges() {
@@ -1701,6 +1728,31 @@ public final class PromisesTest {
         // 6 (of 0), 10, 51, 10225: numbers end at 9999, so what is longer is never below.
         due("cut", x.split(0), 52);
         due("of 0 below", x.split(1), 1);
+        due("at 9999", splitAfterSleep(8, 60), 9999);
+        due("beyond 9999", splitAfterSleep(9, 60), 1);
+        x = with(0, "go 1000 when kisses>0;go 0;delay long-1;kiss 0;lasts 1;");
+        x.say(1, 10, 1, false);
+        x.say(1, 11, 1, false);
+        x.say(1, 11, 1, false);
+        x.minutes(12);
+        due("10, 11, 11", x.split(0) * 10 + x.split(1), 111);
+    }
+
+    /** The cut between two answers to what was read only at 9990, of so many minutes more each. */
+    private static int splitAfterSleep(int first, int second) {
+        ThreeDots x = new ThreeDots();
+        tell(x, 0, "go 1000 when kisses>0;go 0;delay long;kiss 0;");
+        tell(x, 1, "one 1 from 0 for 24 sleep;");
+        x.say(0, first, 1, false);
+        x.say(0, second, 1, false);
+        for (int i = 0; i < 33; i++) {
+            x.minutes(300);
+        }
+        x.minutes(90);
+        tell(x, 1, "");
+        x.minutes(70);
+        due("pauses", x.pauses(1, 0), 2 * 9990 + first + second);
+        return x.split(0);
     }
 
     private static int keepsToldLaw() {
@@ -1721,6 +1773,7 @@ public final class PromisesTest {
         List<Integer> then = seen(x);
         int sure = x.sure(400, 1, 0);
         int go = x.goes(200, 3);
+        due("rests", x.rests(), 12);
         for (int times = 0; times < 3; times++) {
             x.undo();
             x.state(1);
@@ -1732,7 +1785,8 @@ public final class PromisesTest {
             tell(x, 3, "sign easy 9 cross 9;sign easy 9 cross 8;");
             x.time(NONE);
             x.time(times);
-            x.table(1, 1, 1);
+            x.table(1, 1, 9);
+            x.table(3, 9, 9);
             x.say(1, 50, 5, true);
             x.ring();
             x.minutes(10);
