@@ -2,13 +2,7 @@ import java.util.ArrayList;
 import java.util.List;
 
 /** Each promise of the document by hand: ordinary inputs, the edges it names, wrong inputs. */
-public final class PromisesTest {
-    private static final int NONE = ThreeDots.NONE;
-    private static final int FAR = Integer.MAX_VALUE;
-    private static final int DEEP = Integer.MIN_VALUE;
-    private static int checks = 0;
-    private static int wrong = 0;
-
+public final class PromisesTest extends Due {
     public static void main(String[] args) {
         newObject();
         state();
@@ -63,87 +57,7 @@ public final class PromisesTest {
         splitEdges();
         image();
         look();
-        System.out.println(checks + " checks, " + wrong + " wrong");
-        System.exit(wrong == 0 ? 0 : 1);
-    }
-
-    // ---- helpers ----
-
-    private static void due(String what, long got, long want) {
-        checks++;
-        if (got != want) {
-            wrong++;
-            System.out.println(what + " answered " + got + ", due is " + want);
-        }
-    }
-
-    private static void due(String what, boolean got, boolean want) {
-        due(what, got ? 1 : 0, want ? 1 : 0);
-    }
-
-    private static int tell(ThreeDots x, int k, String text) {
-        x.end(0);
-        for (int i = 0; i < text.length(); i += 20) {
-            int[] n = new int[5];
-            for (int j = 0; j < 20; j++) {
-                n[j / 4] = n[j / 4] << 8 | (i + j < text.length() ? text.charAt(i + j) & 255 : 32);
-            }
-            x.feed(n[0], n[1], n[2], n[3], n[4]);
-        }
-        x.end(text.length());
-        return x.text(k);
-    }
-
-    private static void faulty(int k, String text, int fault, int place) {
-        ThreeDots x = new ThreeDots();
-        due("text " + k + " \"" + text + "\"", tell(x, k, text), NONE);
-        due("its fault \"" + text + "\"", x.fault(0), fault);
-        due("its place \"" + text + "\"", x.fault(1), place);
-    }
-
-    private static void good(int k, String text, int lines) {
-        ThreeDots x = new ThreeDots();
-        due("text " + k + " \"" + text + "\"", tell(x, k, text), lines);
-        due("its fault \"" + text + "\"", x.fault(0), 0);
-        due("its place \"" + text + "\"", x.fault(1), NONE);
-    }
-
-    private static ThreeDots with(int k, String text) {
-        ThreeDots x = new ThreeDots();
-        if (tell(x, k, text) == NONE) {
-            due("text is told \"" + text + "\"", 0, 1);
-        }
-        return x;
-    }
-
-    /** All that a new run of questions can tell apart, for states that must be the same. */
-    private static List<Integer> seen(ThreeDots x) {
-        List<Integer> all = new ArrayList<>();
-        for (int w = 0; w < 10; w++) {
-            all.add(x.look(w));
-        }
-        for (int i = 0; i < x.look(1); i++) {
-            for (int w = 0; w < 9; w++) {
-                all.add(x.message(i, w));
-            }
-        }
-        for (int i = 0; i < x.look(3); i++) {
-            for (int w = 0; w < 4; w++) {
-                all.add(x.book(i, w));
-            }
-        }
-        for (int w = 0; w < 4; w++) {
-            all.add(x.of(0, w));
-            all.add(x.of(1, w));
-        }
-        all.add(x.rests());
-        all.add(x.fits(0));
-        all.add(x.sure(300, 0, 0));
-        return all;
-    }
-
-    private static void same(String what, List<Integer> got, List<Integer> want) {
-        due(what, got.equals(want), true);
+        finish();
     }
 
     // ---- promise 1 ----
