@@ -211,6 +211,9 @@ public final class BoundsTest extends Due {
         }
         due("none is answered", x.minutes(20), 0);
         due("rung with nothing due", x.ring(), 0);
+        x.say(1, 5, 0, false);
+        due("what comes later is due", x.minutes(2) * 100 + x.message(6, 8), 33);
+        due("and answered", x.minutes(9) * 10 + x.message(7, 6), 16);
     }
 
     // ---- promise 7 ----

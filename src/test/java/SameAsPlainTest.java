@@ -83,11 +83,65 @@ public final class SameAsPlainTest {
         if (below(2) > 0) {
             tellText(3);
         }
+        opening();
         int left = 60 + below(120);
         for (int i = 0; i < left && same; i++) {
             step();
         }
         lookAll();
+    }
+
+    /** Now and then a run begins where something is full or far on: there the edges are that it else seldom meets. */
+    private void opening() {
+        switch (below(40)) {
+            case 0, 1, 2, 3 -> sayMany(50 + below(11));
+            case 4, 5 -> ringMany(135 + below(20));
+            case 6 -> goFar(9999, 295 + below(5));
+            case 7, 8 -> {
+                sayMany(1 + below(5));
+                sleepLong();
+            }
+            case 9 -> {
+                sayMany(55 + below(6));
+                ringMany(90);
+            }
+            default -> { }
+        }
+    }
+
+    private void sayMany(int many) {
+        for (int i = 0; i < many; i++) {
+            int one = below(2);
+            int l = 1 + below(99);
+            int k = below(10);
+            due("say(" + one + ", " + l + ", " + k + ", true)", x.say(one, l, k, true), y.say(one, l, k, true));
+        }
+    }
+
+    private void ringMany(int many) {
+        for (int i = 0; i < many; i++) {
+            due("ring()", x.ring(), y.ring());
+        }
+    }
+
+    private void goFar(int minute, int times) {
+        due("set(0, 0, " + minute + ")", bit(x.set(0, 0, minute)), bit(y.set(0, 0, minute)));
+        for (int i = 0; i < times && same; i++) {
+            due("minutes(300)", x.minutes(300), y.minutes(300));
+        }
+    }
+
+    /** What is said is read so late that it took more than 9999 minutes, or nearly so. */
+    private void sleepLong() {
+        feedText("one 0 from 0 for 24 sleep;one 1 from 0 for 24 busy;");
+        due("text(1)", x.text(1), y.text(1));
+        for (int i = 0; i < 33; i++) {
+            due("minutes(300)", x.minutes(300), y.minutes(300));
+        }
+        int more = 50 + below(100);
+        due("minutes(" + more + ")", x.minutes(more), y.minutes(more));
+        due("text(1)", x.text(1), y.text(1));
+        due("minutes(1)", x.minutes(1), y.minutes(1));
     }
 
     private void step() {
@@ -143,16 +197,23 @@ public final class SameAsPlainTest {
                 due("time(" + v + ")", x.time(v), y.time(v));
             }
             case 9 -> {
-                int k = near(0, 3);
-                int a = near(0, 99);
-                int b = near(0, 99);
-                due("table(" + k + ", " + a + ", " + b + ")", bit(x.table(k, a, b)), bit(y.table(k, a, b)));
+                if (below(2) == 0) {
+                    tellTable(near(0, 3), near(0, 99), near(0, 99));
+                } else {
+                    for (int k = 0; k < 4; k++) {
+                        tellTable(k, below(4), below(4));
+                    }
+                }
             }
             default -> {
                 boolean taken = random.nextBoolean();
                 due("image(" + taken + ")", bit(x.image(taken)), bit(y.image(taken)));
             }
         }
+    }
+
+    private void tellTable(int k, int a, int b) {
+        due("table(" + k + ", " + a + ", " + b + ")", bit(x.table(k, a, b)), bit(y.table(k, a, b)));
     }
 
     private void ask() {
@@ -262,6 +323,17 @@ public final class SameAsPlainTest {
         };
         text = below(5) == 0 ? spoiled(text) : text;
         text = text.length() > 400 ? text.substring(0, 400) : text;
+        int fed = feedText(text);
+        int length = below(60) == 0 ? near(0, fed) : text.length();
+        due("end(" + length + ")", bit(x.end(length)), bit(y.end(length)));
+        int as = below(60) == 0 ? near(0, 3) : k;
+        due("text(" + as + ")", x.text(as), y.text(as));
+        due("fault(0)", x.fault(0), y.fault(0));
+        due("fault(1)", x.fault(1), y.fault(1));
+    }
+
+    /** Feeds a text with blanks behind it up to a full twenty; how many bytes that were. */
+    private int feedText(String text) {
         calls.add("\"" + text.replace("\n", "\\n") + "\"");
         StringBuilder padded = new StringBuilder(text);
         while (padded.length() % 20 != 0) {
@@ -274,12 +346,7 @@ public final class SameAsPlainTest {
             }
             due("feed(..)", x.feed(n[0], n[1], n[2], n[3], n[4]), y.feed(n[0], n[1], n[2], n[3], n[4]));
         }
-        int length = below(60) == 0 ? near(0, padded.length()) : text.length();
-        due("end(" + length + ")", bit(x.end(length)), bit(y.end(length)));
-        int as = below(60) == 0 ? near(0, 3) : k;
-        due("text(" + as + ")", x.text(as), y.text(as));
-        due("fault(0)", x.fault(0), y.fault(0));
-        due("fault(1)", x.fault(1), y.fault(1));
+        return padded.length();
     }
 
     private String spoiled(String text) {

@@ -30,6 +30,8 @@ public final class TermsTest extends Due {
         closedOnes();
         intsWrap();
         partsTowardsZero();
+        conditions();
+        toldAnew();
         firstLineThatIsSo();
         toldByNone();
         heldToBounds();
@@ -40,6 +42,7 @@ public final class TermsTest extends Due {
 
     private static void finishMinutes() {
         sayingsLineByLine();
+        sayingsInThisMinute();
         deletesTheLatest();
         deletesNothing();
         readAfterItsMinute();
@@ -336,6 +339,7 @@ public final class TermsTest extends Due {
         faulty(0, "go 10000;", 1, 3);
         faulty(0, "go 1 2;", 1, 5);
         faulty(0, "go 1/00000;", 1, 5);
+        faulty(0, "go 1 00590", 1, 5);
         good(0, "go 1/0001;", 1);
         good(1, "one0from0023for0024bus;", 1);
         due("four digits", asked("hurt 9999-9950;", 3), 49);
@@ -385,6 +389,14 @@ public final class TermsTest extends Due {
             faulty(k, whole[k].substring(0, whole[k].length() - 1) + " \n ", 1, whole[k].length() + 2);
         }
         faulty(0, "go 1" + " ".repeat(396), 1, 400);
+        // The last byte there can be: a word, a part of a longer one, a number, a sign.
+        faulty(0, " ".repeat(396) + "kiss", 1, 400);
+        faulty(0, " ".repeat(397) + "kis", 1, 397);
+        faulty(1, "\n".repeat(397) + "one", 1, 400);
+        faulty(1, "one 0 from 0 for 1" + " ".repeat(379) + "bus", 1, 400);
+        faulty(0, "go" + " ".repeat(394) + "9999", 1, 400);
+        faulty(0, "go" + " ".repeat(393) + "99999", 1, 395);
+        good(0, "go" + " ".repeat(396) + "1;", 1);
         // As many tokens as 400 bytes can have: whole, and without their end.
         good(0, "go1" + "+1".repeat(198) + ";", 1);
         faulty(0, "go1" + "+1".repeat(198) + "+", 1, 400);
@@ -469,6 +481,49 @@ public final class TermsTest extends Due {
         due("each part at once", asked("hurt 7/2/2;", 3), 1);
         due("from the left", asked("hurt 7/2*2;", 3), 6);
         due("from the left", asked("hurt 2*7/2;", 3), 7);
+    }
+
+    // "B = A {or A}.  A = C {and C}.  C = E (< | = | >) E | not C | ( B )."
+    private static void conditions() {
+        for (int bits = 0; bits < 8; bits++) {
+            boolean a = (bits & 1) != 0;
+            boolean b = (bits & 2) != 0;
+            boolean c = (bits & 4) != 0;
+            String[] shapes = {"A", "not A", "(A)", "A or B", "A and B", "A or (B)", "A and (B)", "(A) or B", "(A) and B",
+                "A or B and C", "A and B or C", "(A or B) and C", "A and (B or C)", "A or (B and C)", "(A and B) or C",
+                "not A or B", "not A and B", "not (A or B)", "not (A and B)", "A or not B", "A and not (B or C)",
+                "A or not (B and C)", "not (A) or (not B and C)", "A or B or C", "A and B and C", "not not A and B",
+                "(A or (B and (C or A)))", "A and (B or (C and not A))"};
+            boolean[] want = {a, !a, a, a || b, a && b, a || b, a && b, a || b, a && b,
+                a || b && c, a && b || c, (a || b) && c, a && (b || c), a || b && c, a && b || c,
+                !a || b, !a && b, !(a || b), !(a && b), a || !b, a && !(b || c),
+                a || !(b && c), !a || !b && c, a || b || c, a && b && c, a && b,
+                a || b && (c || a), a && (b || c && !a)};
+            for (int i = 0; i < shapes.length; i++) {
+                String told = shapes[i].replace("A", a ? "1=1" : "1>1").replace("B", b ? "1<2" : "2<2")
+                    .replace("C", c ? "3>2" : "2=3");
+                due(told, asked("go 1 when " + told + ";go 2;", 4), want[i] ? 1 : 2);
+            }
+        }
+    }
+
+    private static void toldAnew() {
+        // A text told again has all its room again, and nothing of the one ahead of it is left.
+        ThreeDots x = new ThreeDots();
+        x.say(0, 50, 5, true);
+        for (int i = 0; i < 4; i++) {
+            tell(x, 0, "go1" + "+1".repeat(198) + ";");
+            due("a sum of 199", x.asks(0, 4), 199);
+            tell(x, 0, "go 1 when 1=2" + " or 1=2".repeat(40) + " or 1=1;go 2;");
+            due("a long condition", x.asks(0, 4), 1);
+            tell(x, 0, "go 1 when 1=2" + " or 1=2".repeat(40) + ";go 2;");
+            due("the same, not so", x.asks(0, 4), 2);
+            tell(x, 0, "go 7;");
+            due("a short one", x.asks(0, 4), 7);
+            due("a fault in between", tell(x, 0, "go 8+9"), NONE);
+            due("leaves it", x.asks(0, 4), 7);
+            due("none", tell(x, 0, "") * 1000 + x.asks(0, 4), 900);
+        }
     }
 
     // "E of the first line with that word whose B is so, or that has none"
@@ -569,6 +624,28 @@ public final class TermsTest extends Due {
         due("the first is not back", x.message(0, 7), 0);
         due("answers none", x.message(0, 6) + x.message(1, 6) + x.message(2, 6), -3);
         due("minute 2", x.minutes(1), 1);
+    }
+
+    private static void sayingsInThisMinute() {
+        // In the MINUTE that is now, in the next, in the last one that goes by; not in the one behind it.
+        for (int minute : new int[] {0, 7, 239, 240, 1439, 5000}) {
+            for (int late : new int[] {0, 1, 2, 298, 299, 300}) {
+                ThreeDots x = with(2, "at " + (minute + late) + " one 1 says 3 kisses 0;");
+                tell(x, 0, "go 0;");
+                x.set(0, 0, minute);
+                due("in thought", x.goes(300, 0), late < 300 ? 1 : 0);
+                due("in thought, just so far", x.goes(late + 1, 0), 1);
+                due("goes by", x.minutes(300), late < 300 ? 1 : 0);
+                due("SENT", x.message(0, 1), late < 300 ? minute + late : -2);
+                due("none comes again", x.minutes(300), late < 300 ? 0 : 1);
+            }
+            // Nothing else goes on: two in a row.
+            ThreeDots x = with(2, "at " + (minute + 1) + " one 1 deletes;at " + (minute + 2) + " one 1 says 3 kisses 0;"
+                + "at " + (minute + 3) + " one 1 deletes;");
+            x.set(0, 0, minute);
+            due("one came", x.minutes(100), 1);
+            due("said, and taken back ahead of its reading", x.look(3) * 10 + x.message(0, 7), 21);
+        }
     }
 
     // "deletes: his latest MESSAGE that is not READ nor BACK is BACK"
@@ -676,7 +753,20 @@ public final class TermsTest extends Due {
         }
         due("never", x.message(0, 2) + x.message(1, 2), -2);
         due("still answered by none", x.look(1), 2);
-        // Awake from 1 on: what is said at 59 by both is read at 60.
+        // Sixty wait for one who sleeps, while the other one is awake; and the other way round.
+        for (int one = 0; one < 2; one++) {
+            x = with(1, "one " + one + " from 0 for 5 sleep;");
+            tell(x, 0, "go 0;hurt 0;");
+            for (int i = 0; i < 60; i++) {
+                x.say(1 - one, 5, 0, false);
+            }
+            due("none is hurt", x.goes(299, 2 + one), 9);
+            x.minutes(300);
+            due("not yet", x.message(0, 2) + x.message(59, 2), 2 * NONE);
+            x.minutes(1);
+            due("then all", x.message(0, 2) * 1000 + x.message(59, 2), 300300);
+        }
+        // Awake from 1 on: what is said at 30 by both is read at 60.
         x = with(1, "one 0 from 0 for 1 busy;one 1 from 0 for 1 sleep;");
         tell(x, 0, "go 0;");
         x.set(0, 0, 30);
