@@ -631,13 +631,16 @@ public final class ThoughtTest extends Due {
         tell(x, 0, "hurt 0-9 when cross=11;hurt 1;go 0;");
         // 11 2 3 4: two read is least: of six sets of two the least.
         due("two of four: the least set", x.deletes(0, 2, 0) * 100 + x.deletes(0, 2, 1), 203);
-        // Either the third alone or the first and the second: fewer goes before least.
-        x = with(0, "hurt 0-2 when kisses=2 and cross=12;hurt 1 when kisses=1;hurt 2 when kisses=2;go 0;");
+        // The third alone (set 4) or the first and the second (set 3): the fewest goes before the least set.
+        x = with(0, "hurt 0-1 when kisses=1;hurt 0-2 when cross=10;hurt 5;go 0;");
         x.say(0, 5, 1, false);
         x.say(0, 5, 1, false);
         x.say(0, 5, 2, false);
-        // All: 11 12 10. Without the third 12; without the first two 12; without all 10; none back: 10.
-        due("none", x.deletes(0, 2, 0) * 100 + x.deletes(0, 2, 1), 1000);
+        // Read are all: 9 8 13; the last two: 9 14; the third: 8; the first two: 9 8; one of these: 9; none: 10.
+        due("the third alone", x.deletes(0, 2, 0) * 100 + x.deletes(0, 2, 1), 804);
+        // Both ways are as good as none back.
+        tell(x, 0, "hurt 0-1 when kisses=1;hurt 0-2 when cross=10;hurt 0;go 0;");
+        due("none back", x.deletes(0, 2, 0) * 100 + x.deletes(0, 2, 1), 800);
     }
 
     // "being BACK now": before any MINUTE goes by; "behind n (1 .. 300) MINUTES in thought"
