@@ -195,6 +195,7 @@ public final class TermsTest extends Due {
         due("in thought, too", x.goes(999, 0), 60);
     }
 
+    // "(No room for a MESSAGE: it is left out.)"
     private static void noRoomForOne() {
         // Read at 60 messages, due at 60: left out; there is a draw, a hurt, but no more.
         ThreeDots x = with(0, "go 1000;delay 1;hurt 1;");
@@ -236,6 +237,7 @@ public final class TermsTest extends Due {
         }
     }
 
+    // "(from HOUR 0 .. 23, for 1 .. 24 hours ..)"; "2 (at the NUMBER) .. one beyond its bounds"
     private static void hoursBounds() {
         for (String what : new String[] {"free", "bus", "busy", "sleep"}) {
             good(1, "one 0 from 0 for 1 " + what + ";", 1);
@@ -507,6 +509,7 @@ public final class TermsTest extends Due {
         }
     }
 
+    // "The TAPE, empty then, is TEXT k"
     private static void toldAnew() {
         // A text told again has all its room again, and nothing of the one ahead of it is left.
         ThreeDots x = new ThreeDots();
@@ -626,6 +629,7 @@ public final class TermsTest extends Due {
         due("minute 2", x.minutes(1), 1);
     }
 
+    // "Line by line of SAYINGS for it": for the MINUTE that is now, not ahead of it, not behind it
     private static void sayingsInThisMinute() {
         // In the MINUTE that is now, in the next, in the last one that goes by; not in the one behind it.
         for (int minute : new int[] {0, 7, 239, 240, 1439, 5000}) {
@@ -702,6 +706,7 @@ public final class TermsTest extends Due {
         due("but at 4", x.message(2, 2), 4);
     }
 
+    // "(b) MESSAGE by MESSAGE"
     private static void readInOrder() {
         // The second is read by the CROSS that the first one left, and so on; each one's own.
         ThreeDots x = with(0, "hurt 5 when cross=10;hurt 7 when cross=15;hurt 11;go 0;");
@@ -730,6 +735,7 @@ public final class TermsTest extends Due {
         }
     }
 
+    // "free or on a bus this HOUR"
     private static void readAtFullHours() {
         // Asleep up to the last minute of an hour, awake with the first of the next; also over midnight.
         int[][] sleeps = {{0, 1, 0, 60}, {0, 2, 0, 120}, {22, 3, 1380, 1500}, {23, 1, 1380, 1440}, {1, 22, 60, 1380}};
@@ -843,6 +849,7 @@ public final class TermsTest extends Due {
         dueLine(x, 7, "5 2 1 4");
     }
 
+    // "DUE (the MINUTE at which it will be answered, or none)"
     private static void answeredOnlyOnce() {
         ThreeDots x = with(0, "go 1000 when kisses=9;go 0;delay 3;kiss 0;");
         x.say(0, 5, 9, false);
@@ -882,6 +889,7 @@ public final class TermsTest extends Due {
         }
     }
 
+    // "TOOK .. (how long the latest answer of the other one took ..)"
     private static void tookOfTheOtherOne() {
         ThreeDots x = with(0, "go 1000;delay 5;");
         x.set(2, 0, 70);
@@ -909,6 +917,7 @@ public final class TermsTest extends Due {
         }
     }
 
+    // "is it HOUR 4 then, and a full one"
     private static void tenthOnceADay() {
         int[] full = {240, 1680, 3120, 4560};
         for (int m : full) {
@@ -942,6 +951,7 @@ public final class TermsTest extends Due {
         due("HOUR 5", x.of(0, 0), 99);
     }
 
+    // "(d) MINUTE is one more; is it HOUR 4 then": behind (b) and (c)
     private static void tenthBehindHurt() {
         // Read at 239: hurt 5 to 15 first, then a tenth less.
         ThreeDots x = with(0, "hurt 15;go 1000;delay 1;lasts cross;");

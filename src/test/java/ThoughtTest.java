@@ -147,6 +147,7 @@ public final class ThoughtTest extends Due {
         due("0's again, as it is read", x.goes(4, 1), 0);
     }
 
+    // "how many MESSAGES then": 60 at most
     private static void goesFull() {
         ThreeDots x = with(0, "go 1000;delay 1;hurt 1 when took>2;hurt 0;");
         for (int i = 0; i < 59; i++) {
@@ -893,6 +894,7 @@ public final class ThoughtTest extends Due {
         due("of 0 below: 3 alone", x.split(1), 1);
     }
 
+    // "the number (1 .. 9999 ..)"
     private static void splitBounds() {
         // 2 behind 9997 is the last number: 9999 parts off 9998.
         int[][] lates = {{8, 60, 9999}, {9, 60, 1}};
@@ -1008,6 +1010,7 @@ public final class ThoughtTest extends Due {
         due("TABLE stays", x.rests(), 14);
     }
 
+    // "goes back (STATE, THE BOOK, too)"
     private static void undoGoesOn() {
         // The same draws come again.
         ThreeDots x = with(0, "go 500;delay 1;");
@@ -1090,6 +1093,7 @@ public final class ThoughtTest extends Due {
         same("still", seen(x), second);
     }
 
+    // "but the TAPE, fault()"
     private static void imageLeavesTape() {
         ThreeDots x = new ThreeDots();
         x.image(true);
