@@ -249,6 +249,10 @@ public final class BoundsTest extends Due {
         due("two are not", x.minutes(2), 0);
         due("the last again", x.look(0), 99999);
         due("in thought it goes on", x.goes(999, 0), 1);
+        tell(x, 0, "go 1000;delay 1;hurt 0;");
+        x.say(1, 5, 0, false);
+        due("beyond the last nothing ahead of its time", x.goes(2, 0), 2);
+        due("beyond the last it is answered", x.goes(3, 0), 3);
     }
 
     // ---- promises 8 and 9 ----

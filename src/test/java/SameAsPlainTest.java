@@ -2,6 +2,8 @@ import java.util.ArrayList;
 import java.util.List;
 import java.util.Random;
 import java.util.TreeMap;
+import java.util.regex.Matcher;
+import java.util.regex.Pattern;
 
 /** Random runs of calls, the same every time, in which ThreeDots must answer what PlainDots answers. */
 public final class SameAsPlainTest {
@@ -10,6 +12,7 @@ public final class SameAsPlainTest {
     private final PlainDots y = new PlainDots();
     private final List<String> calls = new ArrayList<>();
     private boolean same = true;
+    private static final Pattern TOKEN = Pattern.compile("[a-zA-Z]+|[0-9]+|[^ \n]");
     private static final TreeMap<String, Integer> SEEN = new TreeMap<>();
 
     private SameAsPlainTest(long seed) {
@@ -353,7 +356,8 @@ public final class SameAsPlainTest {
         StringBuilder s = new StringBuilder(text);
         for (int times = 1 + below(2); times > 0; times--) {
             int at = below(s.length() + 1);
-            switch (below(4)) {
+            switch (below(6)) {
+                case 4, 5 -> s = new StringBuilder(otherToken(s.toString()));
                 case 0 -> s.insert(at, ";+-*/()<=>?Aa0\t\0".charAt(below(16)));
                 case 1 -> s.insert(at, pick("not", "(", " when ", "/0", "00000", " or ", "X", ";", "12345", "\u00e9"));
                 case 2 -> s.setLength(at);
@@ -365,6 +369,21 @@ public final class SameAsPlainTest {
             }
         }
         return s.toString();
+    }
+
+    /** The text with another token in one place. */
+    private String otherToken(String text) {
+        List<String> tokens = new ArrayList<>();
+        Matcher token = TOKEN.matcher(text);
+        while (token.find()) {
+            tokens.add(token.group());
+        }
+        if (!tokens.isEmpty()) {
+            String other = below(3) > 0 ? tokens.get(below(tokens.size())) : pick("0", "1", "3", "5", "9999", "one",
+                "not", "(", ")", "sleep", "many", "stop", "deletes", "cross", "when", "=", ";", "/", "/0", "-");
+            tokens.set(below(tokens.size()), other);
+        }
+        return String.join(" ", tokens);
     }
 
     private String pick(String... of) {

@@ -1,3 +1,7 @@
+import java.util.List;
+import java.util.regex.Matcher;
+import java.util.regex.Pattern;
+
 /**
  * The document's terms 1 to 3, sentence by sentence: each that names an edge (the first, the last, none, full,
  * round the clock, held to its bounds) has a method of its own, with the sentence above it.
@@ -20,6 +24,9 @@ public final class TermsTest extends Due {
         habitsBounds();
         linesAtMost();
         lettersTogether();
+        oneLetterMoreOrLess();
+        everyTokenInEveryPlace();
+        everyTokenOfTheLaw();
         digitsTogether();
         signs();
         blanks();
@@ -36,6 +43,7 @@ public final class TermsTest extends Due {
         toldByNone();
         heldToBounds();
         facts();
+        factsWhereUsed();
         finishMinutes();
         finish();
     }
@@ -332,6 +340,129 @@ public final class TermsTest extends Due {
         faulty(3, "sign easy 1 long 1;", 1, 12);
     }
 
+    // "letters as many as stand together are KEYWORDS .. or none": no keyword is cut short or stands for a longer one
+    private static void oneLetterMoreOrLess() {
+        String[] lines = {"delay one+cross-took*long/3 when kisses<stop and not bus=hour or (ticks>many);",
+            "lasts 1;kiss 1;hurt 1;go 1;", "one 0 from 0 for 1 free;one 0 from 0 for 1 bus;one 0 from 0 for 1 busy;",
+            "one 0 from 0 for 1 sleep;", "at 0 one 0 says 1 kisses 0 stop;at 0 one 0 deletes;",
+            "sign easy 1 cross 1;"};
+        int[] texts = {0, 0, 1, 1, 2, 3};
+        for (int l = 0; l < lines.length; l++) {
+            good(texts[l], lines[l], lines[l].split(";").length);
+            Matcher word = Pattern.compile("[a-z]+").matcher(lines[l]);
+            while (word.find()) {
+                String behind = lines[l].substring(word.end());
+                faulty(texts[l], lines[l].substring(0, word.end()) + "x" + behind, 1, word.start());
+                faulty(texts[l], lines[l].substring(0, word.start()) + "x" + word.group() + behind, 1, word.start());
+                // One letter less of "busy" is "bus", which can stand there, too.
+                if (!word.group().equals("busy")) {
+                    faulty(texts[l], lines[l].substring(0, word.end() - 1) + behind, 1, word.start());
+                }
+            }
+        }
+    }
+
+    // "1 what can't stand there"; "2 (at the NUMBER) .. one beyond its bounds"
+    private static void everyTokenInEveryPlace() {
+        tokensInPlaces(1, "one", "0-1", "from", "0-23", "for", "1-24", "free bus busy sleep", ";");
+        // "says" or "deletes", "stop" or ";": the other one can stand there, too, but changes what comes behind.
+        tokensInPlaces(2, "at", "0-9999", "one", "0-1", "deletes (says)", ";");
+        tokensInPlaces(2, "at", "0-9999", "one", "0-1", "says (deletes)", "1-99", "kisses", "0-9", "stop (;)", ";");
+        tokensInPlaces(2, "at", "0-9999", "one", "0-1", "says (deletes)", "1-99", "kisses", "0-9", "; (stop)");
+        tokensInPlaces(3, "sign", "easy", "1-999", "cross", "1-999", ";");
+    }
+
+    /** Each place tells its words, or the bounds of its number; words in brackets are left out of the trial. */
+    private static void tokensInPlaces(int k, String... places) {
+        String[] tokens = ("one from for free bus busy sleep at says kisses stop deletes sign easy cross delay go when "
+            + "not many long x 0 1 2 3 4 5 6 7 9 10 23 24 25 99 100 999 1000 9999 00000 00003 10000 "
+            + "; + - * / ( ) < = > , ?").split(" ");
+        for (int at = 0; at < places.length; at++) {
+            StringBuilder ahead = new StringBuilder();
+            StringBuilder behind = new StringBuilder();
+            for (int i = 0; i < places.length; i++) {
+                (i < at ? ahead : i > at ? behind : new StringBuilder()).append(' ').append(places[i].split("[ -]")[0]);
+            }
+            List<String> words = List.of(places[at].replaceAll("[()]", "").split(" "));
+            for (String token : tokens) {
+                String text = ahead + " " + token + behind;
+                int place = ahead.length() + 1;
+                boolean number = token.length() < 5 && token.matches("\\d+");
+                if (places[at].contains("(" + token + ")")) {
+                    continue;
+                }
+                if (places[at].contains("-") && number) {
+                    String[] bounds = places[at].split("-");
+                    int v = Integer.parseInt(token);
+                    if (v < Integer.parseInt(bounds[0]) || v > Integer.parseInt(bounds[1])) {
+                        faulty(k, text, 2, place);
+                    } else {
+                        good(k, text, 1);
+                    }
+                } else if (words.contains(token)) {
+                    good(k, text, 1);
+                } else {
+                    faulty(k, text, 1, place);
+                }
+            }
+        }
+    }
+
+    // "B = A {or A}.  A = C {and C}. .. E = T {(+ | -) T}.  T = U {* U | / NUMBER}."; "1 what can't stand there"
+    private static void everyTokenOfTheLaw() {
+        String words = "delay lasts kiss hurt go";
+        String operands = "one cross took long kisses stop bus hour ticks many 0 7 9999";
+        String singles = operands + " not (";
+        lawGoesOn("", words);
+        lawGoesOn("go 1 ;", words);
+        for (String word : words.split(" ")) {
+            lawGoesOn(word, operands);
+        }
+        for (String sign : new String[] {"+", "-", "*", "/ 2 *"}) {
+            lawGoesOn("go 1 " + sign, operands);
+            lawGoesOn("go 1 when 1 " + sign, operands);
+            lawGoesOn("go 1 when 1 = 2 " + sign, operands);
+        }
+        for (String part : new String[] {"go 1 /", "go many * 2 /", "go 1 when 1 /", "go 1 when 1 < many /"}) {
+            lawGoesOn(part, "7 9999");
+        }
+        for (String operand : new String[] {"1", "many", "1 + 2", "1 * one", "1 / 2", "1 / 2 / 2"}) {
+            lawGoesOn("go " + operand, "+ - * / when ;");
+            lawGoesOn("go 1 when " + operand, "+ - * / < = >");
+            lawGoesOn("go 1 when ( not " + operand, "+ - * / < = >");
+            lawGoesOn("go 1 when 1 > " + operand, "+ - * / and or ;");
+            lawGoesOn("go 1 when not 1 > " + operand, "+ - * / and or ;");
+            lawGoesOn("go 1 when ( 1 > " + operand, "+ - * / and or )");
+        }
+        for (String open : new String[] {"when", "when not", "when (", "when not (", "when ( not", "when 1 = 1 and",
+                "when 1 = 1 or", "when ( 1 = 1 ) and", "when ( 1 = 1 or"}) {
+            lawGoesOn("go 1 " + open, singles);
+        }
+        for (String sign : new String[] {"<", "=", ">"}) {
+            lawGoesOn("go 1 when 1 " + sign, operands);
+        }
+        lawGoesOn("go 1 when ( 1 = 1 )", "and or ;");
+        lawGoesOn("go 1 when not ( 1 = 1 )", "and or ;");
+        lawGoesOn("go 1 when ( ( 1 = 1 )", "and or )");
+    }
+
+    /** What can stand behind the beginning of a law, and of all else that it can't. */
+    private static void lawGoesOn(String ahead, String allowed) {
+        String[] tokens = ("delay lasts kiss hurt go when or and not one cross took long kisses stop bus hour ticks many "
+            + "from free says sign 0 7 9999 00000 10000 ; + - * / ( ) < = > , ?").split(" ");
+        List<String> can = List.of(allowed.split(" "));
+        for (String token : tokens) {
+            String text = ahead + " " + token;
+            if (!can.contains(token)) {
+                faulty(0, text, token.equals("0") && ahead.endsWith("/") ? 2 : 1, ahead.length() + 1);
+            } else if (token.equals(";")) {
+                good(0, text, 1);
+            } else {
+                faulty(0, text, 1, text.length());
+            }
+        }
+    }
+
     // "digits as many as stand together NUMBERS of 1 to 4 digits or none"
     private static void digitsTogether() {
         good(0, "go 0;", 1);
@@ -610,6 +741,62 @@ public final class TermsTest extends Due {
         due("one 0", x.asks(1, 3), 0);
         x.set(1, 0, 99);
         due("cross of who it goes to", x.asks(0, 4) * 100 + x.asks(1, 4), 1099);
+    }
+
+    // "one; cross: CROSS; took: TOOK; long, kisses, stop: the MESSAGE's; bus ..; hour; ticks ..; many": where each
+    // word is asked for, as minutes go by and in thought
+    private static void factsWhereUsed() {
+        String[] names = {"one", "cross", "took", "long", "kisses", "stop", "bus", "hour", "ticks", "many"};
+        for (int reader = 0; reader < 2; reader++) {
+            for (int bits = 0; bits < 8; bits++) {
+                int[] values = {reader, 37, 23, 41, 6, bits & 1, bits >> 1 & 1, 5, bits >> 2, 3};
+                for (int f = 0; f < names.length; f++) {
+                    whereUsed(names[f], values[f], reader, bits);
+                }
+            }
+        }
+    }
+
+    /** At 303 the third message is sent to the reader; it is read at 304, and all is told by one fact. */
+    private static ThreeDots sentToReader(String law, int reader, int bits) {
+        ThreeDots x = with(0, law);
+        tell(x, 1, "one " + reader + " from 5 for 1 " + ((bits & 2) != 0 ? "bus;" : "free;")
+            + "one " + (1 - reader) + " from 5 for 1 " + ((bits & 2) != 0 ? "free;" : "bus;"));
+        x.set(0, 0, 303);
+        x.set(1, reader, 37);
+        x.set(1, 1 - reader, 61);
+        x.set(2, reader, 23);
+        x.set(2, 1 - reader, 7);
+        x.set(3, 1 - reader, bits >> 2);
+        x.set(3, reader, 1 - (bits >> 2));
+        for (int i = 0; i < 2; i++) {
+            x.say(reader, 9, 9, (bits & 1) == 0);
+            x.takeBack(i);
+        }
+        x.say(1 - reader, 41, 6, (bits & 1) != 0);
+        return x;
+    }
+
+    private static void whereUsed(String fact, int v, int reader, int bits) {
+        String of = fact + " " + v + " for " + reader + ": ";
+        String when = " when " + fact + "=" + v + ";";
+        ThreeDots x = sentToReader("hurt " + fact + "-20;go 0;", reader, bits);
+        due(of + "hurt in thought", x.goes(2, 2 + reader), 37 + v - 20);
+        x.minutes(2);
+        due(of + "hurt", x.of(reader, 0), 37 + v - 20);
+        x = sentToReader("delay " + fact + "+1;go 1000;hurt 0;", reader, bits);
+        due(of + "not yet answered in thought", x.goes(v + 2, 0), 3);
+        due(of + "answered in thought", x.goes(v + 3, 0), 4);
+        x.minutes(2);
+        due(of + "delay", x.message(2, 8), 304 + v + 1);
+        x = sentToReader("go 1000" + when + "go 0;hurt 0;delay 9;", reader, bits);
+        due(of + "go in thought", x.goes(11, 0), 4);
+        x.minutes(2);
+        due(of + "go", x.message(2, 8), 313);
+        x = sentToReader("lasts " + fact + "+1;kiss 7" + when + "kiss 2;go 1000;delay 1;hurt 0;", reader, bits);
+        x.minutes(3);
+        due(of + "lasts", x.message(3, 3), v + 1);
+        due(of + "kiss", x.message(3, 4), 7);
     }
 
     // "(a) Line by line of SAYINGS for it: says: a MESSAGE of his that answers none"

@@ -386,11 +386,11 @@ public final class ThoughtTest extends Due {
                 due("row " + r, x.drift(one, 0), longest[r]);
             }
         }
-        // {9, 0 that is back, 5, 3}: read ones count, back ones don't.
+        // {9, 7 that is back, 5, 3}: read ones count, back ones don't.
         ThreeDots x = with(0, "go 0;");
         x.say(0, 5, 9, false);
         x.minutes(3);
-        x.say(0, 5, 4, false);
+        x.say(0, 5, 7, false);
         x.takeBack(1);
         x.say(0, 5, 5, false);
         x.say(0, 5, 3, false);
@@ -737,6 +737,16 @@ public final class ThoughtTest extends Due {
         x.minutes(100);
         x.say(1, 5, 0, false);
         due("never read", x.crossed(), 1);
+        for (int back = 0; back < 2; back++) {
+            for (int one = 0; one < 2; one++) {
+                x = new ThreeDots();
+                x.say(one, 5, 5, true);
+                x.say(1 - one, 5, 5, true);
+                due("both", x.crossed(), 1);
+                x.takeBack(back);
+                due("neither BACK", x.crossed(), 0);
+            }
+        }
     }
 
     // "in how many of them both are free or on a bus; the first of these (0 this one); the longest run of them"
