@@ -3,6 +3,7 @@ import java.lang.reflect.Method;
 import java.lang.reflect.Modifier;
 import java.nio.file.Files;
 import java.nio.file.Path;
+import java.util.ArrayList;
 import java.util.Arrays;
 import java.util.HashMap;
 import java.util.List;
@@ -34,6 +35,9 @@ public final class LanguageTest {
         words(code);
         library(code);
         methodLengths(code);
+        List<Written> methods = writtenMethods(code);
+        callsGoEightDeep(methods);
+        madeInConstructors(methods);
         room();
         System.out.println(wrong == 0 ? "the language is kept to" : wrong + " rules are not kept");
         System.exit(wrong == 0 ? 0 : 1);
@@ -145,6 +149,68 @@ public final class LanguageTest {
             }
         }
         holds("the source is whole", depth == 0);
+    }
+
+    /** A method or constructor as it is written down, with the class it stands in. */
+    private record Written(String in, String name, String body) {
+        boolean isConstructor() {
+            return in.equals(name);
+        }
+    }
+
+    private static List<Written> writtenMethods(String code) {
+        Pattern header = Pattern.compile("(?m)^( {4}| {8})((?:public |private |static |final )*)(class )?"
+            + "(?:[\\w\\[\\]]+ )?(\\w+)(?:\\([^)]*\\))? \\{$");
+        List<Written> methods = new ArrayList<>();
+        String inside = "";
+        Matcher m = header.matcher(code);
+        while (m.find()) {
+            String name = m.group(4);
+            if (m.group(3) != null) {
+                inside = name;
+                continue;
+            }
+            int end = code.indexOf("\n" + m.group(1) + "}", m.end());
+            methods.add(new Written(m.group(1).length() == 4 ? "ThreeDots" : inside, name, code.substring(m.end(), end)));
+        }
+        holds("the methods are found", methods.stream().filter(w -> w.in.equals("ThreeDots")).count() >= FACE.size());
+        return methods;
+    }
+
+    /** Recursion counts once: on no way down does a method stand twice. */
+    private static void callsGoEightDeep(List<Written> methods) {
+        int deepest = 0;
+        for (Written w : methods) {
+            deepest = Math.max(deepest, deepestFrom(w, methods, new ArrayList<>()));
+        }
+        System.out.println("calls go " + deepest + " deep");
+        holds("11: calls go at most eight deep, but " + deepest, deepest <= 8);
+        holds("11: the calls are found", deepest >= 6);
+    }
+
+    private static int deepestFrom(Written w, List<Written> methods, List<Written> way) {
+        way.add(w);
+        int below = 0;
+        Matcher call = Pattern.compile("(\\.)?\\b(\\w+)\\(").matcher(w.body);
+        while (call.find()) {
+            boolean qualified = call.group(1) != null;
+            for (Written next : methods) {
+                boolean sameClass = next.in.equals(w.in);
+                if (next.name.equals(call.group(2)) && (qualified || sameClass || next.isConstructor())
+                        && !way.contains(next)) {
+                    below = Math.max(below, deepestFrom(next, methods, way));
+                }
+            }
+        }
+        way.remove(w);
+        return below + 1;
+    }
+
+    private static void madeInConstructors(List<Written> methods) {
+        for (Written w : methods) {
+            holds("room: nothing is made by " + w.in + "." + w.name,
+                w.isConstructor() || !Pattern.compile("\\bnew\\b").matcher(w.body).find());
+        }
     }
 
     /** The objects and elements of one object of the class, counted through all its fields. */

@@ -639,6 +639,10 @@ public final class ThoughtTest extends Due {
         x.say(0, 5, 2, false);
         // Read are all: 9 8 13; the last two: 9 14; the third: 8; the first two: 9 8; one of these: 9; none: 10.
         due("the third alone", x.deletes(0, 2, 0) * 100 + x.deletes(0, 2, 1), 804);
+        x.set(1, 1, 30);
+        tell(x, 0, "hurt 0-1 when kisses=1;hurt 0-2 when cross=30;hurt 5;go 0;");
+        due("the third alone from 30", x.deletes(0, 2, 0) * 100 + x.deletes(0, 2, 1), 2804);
+        x.set(1, 1, 10);
         // Both ways are as good as none back.
         tell(x, 0, "hurt 0-1 when kisses=1;hurt 0-2 when cross=10;hurt 0;go 0;");
         due("none back", x.deletes(0, 2, 0) * 100 + x.deletes(0, 2, 1), 800);
