@@ -6,7 +6,6 @@ import java.nio.file.Files;
 import java.nio.file.Path;
 import java.util.regex.Matcher;
 import java.util.regex.Pattern;
-import javax.tools.ToolProvider;
 
 /** README.md: its examples answer what stands behind them, and its tables name every call with its arguments. */
 public final class ReadmeTest extends Due {
@@ -38,8 +37,9 @@ public final class ReadmeTest extends Due {
         Path folder = Files.createTempDirectory("readme");
         Path source = folder.resolve("ReadmeExamples.java");
         Files.writeString(source, exampleClass(page));
-        int compiled = ToolProvider.getSystemJavaCompiler().run(null, null, null,
-            "-cp", System.getProperty("java.class.path"), "-d", folder.toString(), source.toString());
+        // The same javac that .ci/run calls: the java that runs this may come without one.
+        int compiled = new ProcessBuilder("javac", "-cp", System.getProperty("java.class.path"),
+            "-d", folder.toString(), source.toString()).inheritIO().start().waitFor();
         due("compiling the examples of README.md", compiled, 0);
         if (compiled == 0) {
             URL[] places = {folder.toUri().toURL()};
